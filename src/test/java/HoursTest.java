@@ -98,6 +98,10 @@ public final class HoursTest {
         due.is("of ones", x.cracks(3), 1);
         Due.take(x, "b133m0m0m1m1m0m0m0m1m1");
         due.is("no piece goes round the edge", x.cracks(2), 3);
+        Due.take(x, "b122m1m0m0m0");
+        due.is("cell 0 alone", x.cracks(2), 1);
+        due.is("it is the greatest", x.cracks(3), 1);
+        Due.take(x, "b133m0m0m1m1m0m0m0m1m1");
         due.is("greatest", x.cracks(3), 2);
     }
 
@@ -144,6 +148,11 @@ public final class HoursTest {
         Due.pairs(x, 0, 0, 1, 3, 1, 3);
         due.fault(x, "9 at most", x.plan(1, 2, 0, 3, 13), 9);
         due.fault(x, "no hours", x.plan(1, 2, 0, 3, 10), 4);
+        due.fault(x, "not open", x.plan(1, 2, 0, 3, 2), 0);
+        Due.pairs(x, 2, 0, 0, 9);
+        due.fault(x, "without sun sand alone dries", x.plan(1, 2, 0, 2, 0), 2);
+        Due.pairs(x, 2, 9, 0, 1);
+        due.fault(x, "the strongest sun", x.plan(1, 2, 0, 2, 0), 15);
         for (int lane = 0; lane <= 1; lane++) {
             x.sheet(1, lane, 2);
             x.put(1, 1, 9);

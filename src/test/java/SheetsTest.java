@@ -46,10 +46,12 @@ public final class SheetsTest {
         due.is("it stays", x.cell(0, 4, 0), 7);
         due.fault(x, "a new row", x.sheet(0, 1, 5), 1);
         due.is("0 at first", x.cell(0, 4, 1), 0);
+        x.put(0, 0, 7);
         x.put(0, 4, 7);
         x.sheet(0, 1, 2);
         x.sheet(0, 1, 60);
         due.is("0 at first, again", x.cell(0, 4, 1), 0);
+        due.is("0 at first, again", x.cell(0, 0, 1), 0);
     }
 
     private static void lose() {
