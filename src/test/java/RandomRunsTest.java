@@ -1,6 +1,6 @@
-/** All promises: runs of 512 calls, drawn by a generator that always draws the same, held against Plain. */
+/** All promises: runs of up to 512 calls, drawn by a generator that always draws the same, held against Plain. */
 public final class RandomRunsTest {
-    private static final int RUNS = 250, CALLS = 512, CALL_KINDS = 30;
+    private static final int RUNS = 800, CALLS = 512, LONGEST_STEP = 36, CALL_KINDS = 30;
     private static final int[] EDGES = {Integer.MIN_VALUE, -1000, -2, -1, 61, 1000, 65536, Integer.MAX_VALUE};
 
     private final Due due;
@@ -25,12 +25,11 @@ public final class RandomRunsTest {
 
     private void go(int run) {
         int calls = 0;
-        while (calls < CALLS) {
+        while (calls <= CALLS - LONGEST_STEP) {
             int of = draw(CALL_KINDS + 6);
             if (of < CALL_KINDS) {
-                one("run " + run + " call " + calls + ": ", of);
-                calls++;
-            } else if (of < CALL_KINDS + 3 && (draw(6) == 0 || x.many(0) == 0)) {
+                calls += one("run " + run + " call " + calls + ": ", of);
+            } else if (of < CALL_KINDS + 3 && (draw(6) == 0 || p.many(0) == 0)) {
                 calls += text("run " + run + " call " + calls + ": ");
             } else if (of >= CALL_KINDS + 3) {
                 calls += plan("run " + run + " call " + calls + ": ");
@@ -59,7 +58,7 @@ public final class RandomRunsTest {
     }
 
     private int cell() {
-        return near(0, Math.max(0, x.many(0) * x.many(1) - 1));
+        return near(0, Math.max(0, p.many(0) * p.many(1) - 1));
     }
 
     private int text(String at) {
@@ -103,7 +102,7 @@ public final class RandomRunsTest {
         return 2 * n + 23;
     }
 
-    private void one(String at, int of) {
+    private int one(String at, int of) {
         if (of < 14) {
             early(at, of);
         } else {
@@ -111,6 +110,7 @@ public final class RandomRunsTest {
         }
         due.is(at + "fault", x.fault(), p.fault());
         due.is(at + "trace", x.trace(), p.trace());
+        return 3;
     }
 
     private void early(String at, int of) {
